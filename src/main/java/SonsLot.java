@@ -1773,6 +1773,9 @@ public final class SonsLot {
         }
 
         private long mostFrom(int house, int given, boolean ofTheLeast) {
+            if (!canBeGiven(house, given)) {
+                return NO_WAY;
+            }
             long found = most[house + 1][given];
             for (int plot = 0; plot < plots; plot++) {
                 if ((given >> plot & 1) != 0) {
@@ -1785,6 +1788,12 @@ public final class SonsLot {
                 }
             }
             return found;
+        }
+
+        /** Most rows of plots can't have been given to just the settlers ahead: passing them over saves the most. */
+        private boolean canBeGiven(int house, int given) {
+            int without = house - Integer.bitCount(given);
+            return without >= 0 && without <= houses - Math.min(houses, plots);
         }
 
         /** Behind mostTogether() alone: of like ways the first row. */
