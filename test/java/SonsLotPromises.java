@@ -312,6 +312,7 @@ public final class SonsLotPromises {
         fine("market 20 20;");
         fault("rain 10;", 2, 5);
         fault("rain 1 12345;", 2, 7);
+        fault("rain 1 10;", 2, 7);
         fault("eats 21;", 2, 5);
         fine("eats 20;");
         fine("worth 9999;");
@@ -343,6 +344,7 @@ public final class SonsLotPromises {
         fine("yields rain+year;");
         fine("worth strength+tribe+water+walk+younger;");
         fault("worth foo;", 3, 6);
+        fault("worth zz;", 3, 6);
         fault("worth or 1;", 3, 6);
         fault("worth 1 or and;", 3, 11);
         fault("worth house;", 3, 6);
@@ -355,6 +357,7 @@ public final class SonsLotPromises {
         fault("worth (((((((1)))))));", 2, 12);
         fault("worth ((((((foo))))));", 2, 12);
         fault("worth ((((((not 1))))));", 2, 12);
+        fault("worth ((((((house))))));", 2, 12);
         fault("worth (((((()))))) ;", 1, 12);
         fault("worth ((((((;", 1, 12);
         fault("worth ((((((", 1, 12);
@@ -400,6 +403,11 @@ public final class SonsLotPromises {
         rule("1 or 0 and 0", 1);
         rule("(1 or 0) and 0", 0);
         rule("not 1 or 1", 1);
+        String waiting = "0 or 1 and 1<1+3-5*";
+        rule((waiting + "(").repeat(5) + "0 or 1 and 1<1+3-5*0" + ")".repeat(5), 0);
+        rule((waiting + "(").repeat(5) + "0 or 1 and 1<1+3-5*1" + ")".repeat(5), 1);
+        rule((waiting + "(").repeat(4) + "0 or 1 and 1<1+3-5*0" + ")".repeat(4), 1);
+        rule("1+2*(1+2*(1+2*(1+2*(1+2*(1+2*3)))))", 255);
         rule("strength", 5);
         rule("tribe", 1);
         rule("water", 6);
@@ -748,6 +756,10 @@ public final class SonsLotPromises {
         due("envy without a ring", y.ring(), NONE);
         SonsLot z = of("house 1 1 1;house 1 1 1;plot 0 0 0;");
         due("with who has none", z.ring(), NONE);
+        SonsLot last = of("house 0 0 0;" + TASTES.replace("water=tribe", "(water=tribe)*strength"));
+        last.order(0, 3);
+        last.exchange(2, 3);
+        due("of the last ones", last.ring(), 2);
     }
 
     private static void best() {
@@ -809,6 +821,7 @@ public final class SonsLotPromises {
         promise = 21;
         SonsLot x = of("house 1 1 1;house 1 1 1;plot 6 4 9;plot 2 4 9;plot 20 20 0;");
         due("between", x.middle(), 402);
+        due("at the edge", of("house 1 1 1;plot 20 20 0;").middle(), 2020);
         due("of three", of("house 1 1 1;".repeat(3) + "plot 1 20 0;plot 7 3 0;plot 20 5 0;").middle(), 507);
         due("no shares", of("plot 3 3 3;").middle(), 0);
         SonsLot one = of("house 1 1 1;plot 6 4 9;");
