@@ -1,23 +1,5 @@
 /** Each promise of the document by itself; what is due is reckoned by hand. */
-public final class SonsLotPromises {
-    private static final int NONE = SonsLot.NONE;
-
-    /** WORTH of its plots to everyone: 4, 10, -2; so the shares are 1, 0, 2; harvests there 9, 5, 12. */
-    private static final String THREE =
-        "house 5 2 0;house 3 8 1;house 4 4 2;plot 10 10 2;plot 12 10 6;plot 0 0 9;";
-
-    /** Each house likes the plot whose water is its tribe. */
-    private static final String TASTES =
-        "house 1 2 0;house 1 2 1;house 1 2 2;plot 0 0 0;plot 1 0 1;plot 2 0 2;worth water=tribe;";
-
-    private static int wrong = 0;
-    private static int checks = 0;
-    private static int promise = 0;
-
-    private interface Call {
-        long answer();
-    }
-
+public final class SonsLotPromises extends Due {
     public static void main(String[] args) {
         newObject();
         feed();
@@ -67,98 +49,13 @@ public final class SonsLotPromises {
         founders();
         image();
         restore();
-        System.out.println(checks + " checks, " + wrong + " are not as due");
-        if (wrong != 0) {
-            System.exit(1);
-        }
-    }
-
-    // ---- helpers
-
-    private static void due(String call, long got, long want) {
-        checks++;
-        if (got != want) {
-            wrong++;
-            System.out.println("promise " + promise + ": " + call + " answered " + got + ", due is " + want);
-        }
-    }
-
-    private static void none(String call, Call c) {
-        throwsOne(call, c, "java.util.NoSuchElementException");
-    }
-
-    private static void illegal(String call, Call c) {
-        throwsOne(call, c, "java.lang.IllegalArgumentException");
-    }
-
-    private static void throwsOne(String call, Call c, String want) {
-        checks++;
-        String got = "nothing";
-        try {
-            c.answer();
-        } catch (RuntimeException e) {
-            got = e.getClass().getName();
-        }
-        if (!got.equals(want)) {
-            wrong++;
-            System.out.println("promise " + promise + ": " + call + " throws " + got + ", due is " + want);
-        }
-    }
-
-    private static void tape(SonsLot x, String text) {
-        for (int i = 0; i < text.length(); i += 20) {
-            int[] n = new int[5];
-            for (int k = 0; k < 20; k++) {
-                n[k / 4] = n[k / 4] << 8 | (i + k < text.length() ? text.charAt(i + k) & 255 : ' ');
-            }
-            x.feed(n[0], n[1], n[2], n[3], n[4]);
-        }
-    }
-
-    private static int tell(SonsLot x, String text) {
-        tape(x, text);
-        return x.island(text.length());
-    }
-
-    private static SonsLot of(String text) {
-        SonsLot x = new SonsLot();
-        due("island of " + text, tell(x, text), 0);
-        return x;
-    }
-
-    /** On an object with an island, so that a text that is refused has something to spoil. */
-    private static void fault(String text, int kind, int place) {
-        SonsLot x = of(THREE);
-        due("island of " + text, tell(x, text), kind);
-        due("fault of " + text, x.fault(), place);
-        if (kind != 0) {
-            due("STATUS after " + text, x.count(13), 1);
-            due("houses after " + text, x.count(0), 3);
-            due("plots after " + text, x.count(1), 3);
-            due("worth after " + text, x.worth(0, 1), 10);
-        }
-    }
-
-    private static void fine(String text) {
-        fault(text, 0, NONE);
-    }
-
-    private static void shares(SonsLot x, int... plots) {
-        for (int h = 0; h < plots.length; h++) {
-            due("share of " + h, x.house(h, 4), plots[h]);
-        }
-    }
-
-    private static void stores(SonsLot x, int... stores) {
-        for (int h = 0; h < stores.length; h++) {
-            due("store of " + h, x.house(h, 5), stores[h]);
-        }
+        end();
     }
 
     // ---- the text
 
     private static void newObject() {
-        promise = 1;
+        promise(1);
         due("NONE", SonsLot.NONE, -1);
         SonsLot x = new SonsLot();
         int[] counts = {0, 0, 1010, 4, 0, 3, 0, 0, 0, 0, 0, 0, 0, 0, 0, 0};
@@ -174,7 +71,7 @@ public final class SonsLotPromises {
     }
 
     private static void feed() {
-        promise = 2;
+        promise(2);
         SonsLot x = new SonsLot();
         for (int i = 1; i <= 35; i++) {
             due("feed " + i, x.feed(0x20202020, 0x20202020, 0x20202020, 0x20202020, 0x20202020), 20 * i);
@@ -193,7 +90,7 @@ public final class SonsLotPromises {
     }
 
     private static void island() {
-        promise = 3;
+        promise(3);
         SonsLot x = of(THREE);
         due("houses", x.count(0), 3);
         due("plots", x.count(1), 3);
@@ -214,7 +111,7 @@ public final class SonsLotPromises {
     }
 
     private static void islandAllAnew() {
-        promise = 3;
+        promise(3);
         SonsLot x = of(THREE + "market 1 2;rain 5;eats 7;worth 1;yields 1;");
         x.turn(0);
         x.order(2, 0);
@@ -244,7 +141,7 @@ public final class SonsLotPromises {
     }
 
     private static void faultsOfLines() {
-        promise = 4;
+        promise(4);
         fine("");
         fine(" \n ");
         fine("house1 2 0;house\n3 4 1 ;plot 0 0 0;plot0 1 9;");
@@ -293,7 +190,7 @@ public final class SonsLotPromises {
     }
 
     private static void faultsOfNumbers() {
-        promise = 4;
+        promise(4);
         fault("house 10 0 0;", 2, 6);
         fault("house 0 10 0;", 2, 8);
         fault("house 1 1 3;", 2, 10);
@@ -322,7 +219,7 @@ public final class SonsLotPromises {
     }
 
     private static void faultsOfRules() {
-        promise = 4;
+        promise(4);
         fault("worth", 1, 5);
         fault("worth ;", 1, 6);
         fault("worth 1", 1, 7);
@@ -375,7 +272,7 @@ public final class SonsLotPromises {
     }
 
     private static void rules() {
-        promise = 8;
+        promise(8);
         rule("1+2*3", 7);
         rule("(1+2)*3", 9);
         rule("10-3-2", 5);
@@ -426,7 +323,7 @@ public final class SonsLotPromises {
     // ---- how things are
 
     private static void count() {
-        promise = 5;
+        promise(5);
         SonsLot x = of(THREE + "market 7 12;rain 4 5 6;eats 9;yields 10*(strength=5);");
         due("market", x.count(2), 1207);
         due("eats", x.count(3), 9);
@@ -451,7 +348,7 @@ public final class SonsLotPromises {
     }
 
     private static void house() {
-        promise = 6;
+        promise(6);
         SonsLot x = of(THREE);
         int[][] houses = {{5, 2, 0, 0, 1, 0, 0, 0}, {3, 8, 1, 0, 0, 0, 1, 1}, {4, 4, 2, 0, 2, 0, 2, 3}};
         for (int h = 0; h < 3; h++) {
@@ -471,7 +368,7 @@ public final class SonsLotPromises {
     }
 
     private static void plot() {
-        promise = 7;
+        promise(7);
         SonsLot x = of("house 1 1 1;plot 3 4 6;plot 20 0 9;");
         int[][] plots = {{3, 4, 6, 13, 0}, {20, 0, 9, 20, NONE}};
         for (int p = 0; p < 2; p++) {
@@ -490,7 +387,7 @@ public final class SonsLotPromises {
     }
 
     private static void worth() {
-        promise = 8;
+        promise(8);
         SonsLot x = of(THREE);
         due("2 by water less walk", x.worth(2, 0), 4);
         due("2 by water less walk", x.worth(0, 1), 10);
@@ -502,7 +399,7 @@ public final class SonsLotPromises {
     }
 
     private static void harvest() {
-        promise = 9;
+        promise(9);
         SonsLot x = of(THREE + "rain 1 9;");
         due("water and rain", x.harvest(0, 0, 0), 3);
         due("water and rain", x.harvest(0, 2, 1), 18);
@@ -524,7 +421,7 @@ public final class SonsLotPromises {
     private static final String EIGHT = "house 0 1 0;".repeat(8);
 
     private static void lots() {
-        promise = 10;
+        promise(10);
         SonsLot x = of(EIGHT + "plot 0 0 0;plot 0 1 1;worth younger*water-water*(1-younger);");
         due("share of the first", x.house(0, 4), 0);
         // the seed 1 gives 16838 5758 10113 17515 31051 5627 23010 7419
@@ -543,7 +440,7 @@ public final class SonsLotPromises {
     }
 
     private static void turn() {
-        promise = 11;
+        promise(11);
         SonsLot x = of("house 1 5 0;house 3 3 1;plot 0 0 4;plot 0 1 0;worth (strength-2)*water;");
         shares(x, 1, 0);
         due("turn", x.turn(0), 1);
@@ -563,7 +460,7 @@ public final class SonsLotPromises {
     }
 
     private static void order() {
-        promise = 12;
+        promise(12);
         SonsLot x = of(THREE);
         due("to the front", x.order(2, 0), 2);
         shares(x, 0, 2, 1);
@@ -588,7 +485,7 @@ public final class SonsLotPromises {
     }
 
     private static void exchange() {
-        promise = 13;
+        promise(13);
         SonsLot x = of("house 1 1 1;house 1 1 1;house 1 1 1;house 1 1 1;plot 0 0 0;plot 0 1 1;");
         shares(x, 1, 0, NONE, NONE);
         due("exchange", x.exchange(0, 1) ? 1 : 0, 1);
@@ -608,7 +505,7 @@ public final class SonsLotPromises {
     }
 
     private static void market() {
-        promise = 14;
+        promise(14);
         SonsLot x = of(THREE);
         due("market", x.market(0, 3), 1010);
         due("then", x.count(2), 300);
@@ -630,7 +527,7 @@ public final class SonsLotPromises {
     }
 
     private static void years() {
-        promise = 15;
+        promise(15);
         SonsLot x = of(THREE);
         due("years", x.years(2), 2);
         stores(x, 10, 2, 14);
@@ -652,7 +549,7 @@ public final class SonsLotPromises {
     }
 
     private static void storesAndTithes() {
-        promise = 15;
+        promise(15);
         // 99 less a tenth are 90; what is above 999 is lost ahead of eating
         SonsLot x = of("house 1 1 1;house 1 1 1;plot 0 0 0;yields 100;eats 20;");
         x.years(13);
@@ -685,7 +582,7 @@ public final class SonsLotPromises {
     }
 
     private static void undo() {
-        promise = 16;
+        promise(16);
         SonsLot x = of(THREE);
         due("none", x.undo(), NONE);
         due("STATUS", x.count(14), 0);
@@ -727,7 +624,7 @@ public final class SonsLotPromises {
     }
 
     private static void undoOfMany() {
-        promise = 16;
+        promise(16);
         SonsLot x = of(THREE);
         for (int i = 1; i <= 43; i++) {
             x.years(1);
@@ -743,7 +640,7 @@ public final class SonsLotPromises {
     // ---- envy and better shares
 
     private static void ring() {
-        promise = 17;
+        promise(17);
         SonsLot x = of(TASTES);
         due("none", x.ring(), NONE);
         x.exchange(0, 1);
@@ -763,7 +660,7 @@ public final class SonsLotPromises {
     }
 
     private static void best() {
-        promise = 18;
+        promise(18);
         SonsLot x = of("house 1 0 0;house 2 0 0;plot 10 10 3;plot 10 11 1;worth strength*water;");
         due("how much", x.best(NONE), 7);
         due("first", x.best(0), 1);
@@ -789,7 +686,7 @@ public final class SonsLotPromises {
     }
 
     private static void fairest() {
-        promise = 19;
+        promise(19);
         SonsLot x = of("house 1 0 0;house 2 0 0;plot 10 10 3;plot 10 11 1;worth strength*water;");
         due("there is", x.fairest(0), 1);
         due("how much", x.fairest(1), 2);
@@ -806,7 +703,7 @@ public final class SonsLotPromises {
     }
 
     private static void tribes() {
-        promise = 20;
+        promise(20);
         SonsLot x = of("house 9 3 0;house 1 1 0;house 1 1 0;house 1 1 0;");
         due("9 1 1 1", x.tribes(), 8);
         x.turn(0);
@@ -818,7 +715,7 @@ public final class SonsLotPromises {
     }
 
     private static void middle() {
-        promise = 21;
+        promise(21);
         SonsLot x = of("house 1 1 1;house 1 1 1;plot 6 4 9;plot 2 4 9;plot 20 20 0;");
         due("between", x.middle(), 402);
         due("at the edge", of("house 1 1 1;plot 20 20 0;").middle(), 2020);
@@ -836,7 +733,7 @@ public final class SonsLotPromises {
     private static final String HUNGRY = "house 1 1 1;house 1 1 1;plot 0 0 0;plot 0 1 9;rain 7 0;";
 
     private static void then() {
-        promise = 22;
+        promise(22);
         SonsLot x = of(THREE);
         due("now", x.then(2, 0), 0);
         due("then", x.then(2, 1), 7);
@@ -852,7 +749,7 @@ public final class SonsLotPromises {
     }
 
     private static void starves() {
-        promise = 23;
+        promise(23);
         SonsLot x = of(HUNGRY);
         shares(x, 1, 0);
         due("in the second", x.starves(1), 2);
@@ -870,7 +767,7 @@ public final class SonsLotPromises {
     }
 
     private static void tithes() {
-        promise = 24;
+        promise(24);
         SonsLot x = of(THREE);
         due("none", x.tithes(0), 0);
         due("one a year", x.tithes(1), 1);
@@ -883,7 +780,7 @@ public final class SonsLotPromises {
     }
 
     private static void holdsOut() {
-        promise = 25;
+        promise(25);
         SonsLot x = of(HUNGRY);
         due("the first", x.holdsOut(), 2);
         x.years(2);
@@ -894,7 +791,7 @@ public final class SonsLotPromises {
     }
 
     private static void famine() {
-        promise = 31;
+        promise(31);
         SonsLot x = of(HUNGRY);
         due("now", x.famine(0), 0);
         due("in one", x.famine(1), 0);
@@ -907,7 +804,7 @@ public final class SonsLotPromises {
     }
 
     private static void bushels() {
-        promise = 32;
+        promise(32);
         SonsLot x = of(HUNGRY);
         due("none", x.bushels(1, 0), 0);
         due("7", x.bushels(1, 1), 7);
@@ -923,7 +820,7 @@ public final class SonsLotPromises {
     }
 
     private static void richest() {
-        promise = 34;
+        promise(34);
         SonsLot x = of(THREE);
         due("of like ones the least", x.richest(0), 0);
         due("in one", x.richest(1), 2);
@@ -935,7 +832,7 @@ public final class SonsLotPromises {
     }
 
     private static void change() {
-        promise = 27;
+        promise(27);
         SonsLot x = of("house 5 2 0;house 3 8 1;house 4 9 2;plot 0 0 0;plot 1 0 0;plot 2 0 0;worth 1;yields strength+9;");
         // elders harvest 14, 12, 13 less 1 each; turned: 11 less 1, 17 less 1, 18 less 1
         due("of like ones the least", x.change(1), 1);
@@ -955,7 +852,7 @@ public final class SonsLotPromises {
     }
 
     private static void lotsFor() {
-        promise = 26;
+        promise(26);
         SonsLot x = of(THREE);
         // 12, 9, 17, 14, each of them twice
         due("all", x.lotsFor(0, NONE), 8);
@@ -976,7 +873,7 @@ public final class SonsLotPromises {
     }
 
     private static void envied() {
-        promise = 28;
+        promise(28);
         SonsLot x = of(THREE);
         due("who", x.envied(0), 0);
         due("by how many", x.envied(1), 2);
@@ -991,7 +888,7 @@ public final class SonsLotPromises {
     }
 
     private static void without() {
-        promise = 29;
+        promise(29);
         SonsLot x = of(THREE);
         due("the next one moves up", x.without(0, 1), 1);
         due("and the last", x.without(0, 2), 0);
@@ -1009,7 +906,7 @@ public final class SonsLotPromises {
     }
 
     private static void lastPlace() {
-        promise = 30;
+        promise(30);
         SonsLot x = of(THREE);
         due("of the first", x.lastPlace(0), 0);
         due("of the second", x.lastPlace(1), 1);
@@ -1028,7 +925,7 @@ public final class SonsLotPromises {
     }
 
     private static void free() {
-        promise = 33;
+        promise(33);
         SonsLot x = of("house 1 1 1;plot 0 0 0;plot 10 10 9;plot 0 2 0;");
         due("free", x.free(), 5);
         due("all", of("plot 0 0 0;plot 1 0 0;").free(), 3);
@@ -1038,7 +935,7 @@ public final class SonsLotPromises {
     // ---- what is seen
 
     private static void see() {
-        promise = 35;
+        promise(35);
         SonsLot x = of(THREE);
         due("year -1", x.see(0, -1, 0), NONE);
         due("year 100", x.see(0, 100, 0), NONE);
@@ -1057,7 +954,7 @@ public final class SonsLotPromises {
     }
 
     private static void brothers() {
-        promise = 36;
+        promise(36);
         SonsLot x = of(THREE + "yields strength;");
         due("nothing seen", x.brothers(), 0x707);
         x.see(0, 5, 2);
@@ -1079,7 +976,7 @@ public final class SonsLotPromises {
     }
 
     private static void look() {
-        promise = 37;
+        promise(37);
         SonsLot x = of(THREE + "yields strength*(1+(year=7)+(year=8));");
         due("year", x.look(0, 0), 7);
         due("by how much", x.look(0, 1), 6);
@@ -1096,7 +993,7 @@ public final class SonsLotPromises {
     }
 
     private static void forget() {
-        promise = 38;
+        promise(38);
         SonsLot x = of(THREE);
         x.see(0, 0, 1);
         x.see(0, 0, 100);
@@ -1108,7 +1005,7 @@ public final class SonsLotPromises {
     }
 
     private static void game() {
-        promise = 39;
+        promise(39);
         // plot 2 lies free: worth 30; the shares 10 and 10; the strength 5 and 3
         String text = "plot 0 0 1;plot 0 1 1;plot 0 2 3;worth 10*water;";
         SonsLot x = of("house 5 3 0;house 3 3 0;house 1 1 1;" + text);
@@ -1144,7 +1041,7 @@ public final class SonsLotPromises {
     }
 
     private static void founders() {
-        promise = 40;
+        promise(40);
         SonsLot x = of("house 1 1 1;house 1 1 1;house 1 1 1;plot 0 0 0;plot 0 1 0;plot 0 2 0;yields 10*younger;");
         // draws of the seed 1: 0 0 1, 1 1 1; a younger one has 9 less 4 a year, an elder one is gone at once
         due("gone", x.founders(1, 1, 0), 2);
@@ -1171,7 +1068,7 @@ public final class SonsLotPromises {
     // ---- an image
 
     private static void image() {
-        promise = 41;
+        promise(41);
         SonsLot x = of(THREE);
         x.turn(0);
         x.image();
@@ -1184,7 +1081,7 @@ public final class SonsLotPromises {
     }
 
     private static void restore() {
-        promise = 42;
+        promise(42);
         SonsLot x = of(THREE);
         due("none", x.restore() ? 1 : 0, 0);
         x.turn(0);
