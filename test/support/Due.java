@@ -224,6 +224,13 @@ class Due {
         same(call, probe(met, status, true), probe(busy(), NONE, true));
     }
 
+    /** A question changes nothing, whatever it answers. */
+    static void onlyAsks(String call, Ask ask) {
+        SonsLot met = busy();
+        ask.of(met);
+        same(call, probe(met, NONE, true), probe(busy(), NONE, true));
+    }
+
     /** A text with a fault changes nothing but STATUS, and what fault() tells. */
     static void textChangesNothing(String text, int kind) {
         SonsLot met = busyWithoutTape();
