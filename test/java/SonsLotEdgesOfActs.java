@@ -158,6 +158,10 @@ public final class SonsLotEdgesOfActs extends Due {
         }
         SonsLot nobody = of(plots(1));
         due("without houses", nobody.plot(0, 4), NONE);
+        SonsLot eight = of(houses(8) + plots(9) + "worth 0;");
+        for (int p = 0; p < 9; p++) {
+            due("plot " + p + " of nine", eight.plot(p, 4), p < 8 ? p : NONE);
+        }
         SonsLot gone = of("house 1 1 1;plot 0 0 0;eats 9;");
         gone.years(1);
         due("of who is gone", gone.plot(0, 4), 0);
@@ -725,6 +729,23 @@ public final class SonsLotEdgesOfActs extends Due {
         shares(x, 1, 0, 2);
         due("a turn is undone", x.undo(), 0);
         counts(x, 3, 3, 1010, 4, 0, 3, 0, 0, 0, 0, 0);
+        SonsLot rich = of(houses(2) + plots(2) + "yields 50;");
+        rich.years(1);
+        rich.turn(1);
+        rich.years(2);
+        rich.turn(1);
+        due("tithe", rich.count(7), 30);
+        due("curses", rich.count(8), 2);
+        due("a turn is undone", rich.undo(), 3);
+        counts(rich, 2, 2, 1010, 4, 3, 3, 0, 30, 1, 2, 3);
+        due("years are undone", rich.undo(), 2);
+        counts(rich, 2, 2, 1010, 4, 1, 3, 0, 10, 1, 2, 2);
+        stores(rich, 41, 41);
+        due("a turn is undone", rich.undo(), 1);
+        counts(rich, 2, 2, 1010, 4, 1, 3, 0, 10, 0, 0, 1);
+        due("years are undone", rich.undo(), 0);
+        counts(rich, 2, 2, 1010, 4, 0, 3, 0, 0, 0, 0, 0);
+        stores(rich, 0, 0);
     }
 
     private static void undoAtMost40() {

@@ -605,6 +605,11 @@ public final class SonsLotEdgesOfQuestions extends Due {
         due("nothing is turned", x.count(9), 0);
         due("nobody is cursed", x.count(8), 0);
         due("acts", x.count(10), 1);
+        // to take shares anew would do good, but each turn does more harm
+        SonsLot harm = of("house 9 0 0;house 9 0 1;plot 0 0 0;plot 1 0 1;worth water=tribe;eats 0;"
+            + "yields strength+3*(water=tribe);");
+        harm.exchange(0, 1);
+        due("a house there is, or none", harm.change(1), NONE);
     }
 
     // ---- whose share

@@ -35,6 +35,8 @@ public final class SonsLotEdgesOfSights extends Due {
         statusCounts();
         imageInPlaceOfAnother();
         imageKeepsAll();
+        imageKeepsYearsAndCurses();
+        imageKeepsSights();
         imageKeepsAtMost40();
         imageIsNotTheObject();
         restoreNone();
@@ -516,6 +518,7 @@ public final class SonsLotEdgesOfSights extends Due {
         x.years(31);
         tell(x, "x");
         x.image();
+        x.turn(2);
         x.lots(1);
         x.order(0, 2);
         x.market(9, 9);
@@ -548,6 +551,50 @@ public final class SonsLotEdgesOfSights extends Due {
         due("fault", x.fault(), 0);
         due("the tape is as it was", x.island(12), 0);
         due("houses", x.count(0), 1);
+    }
+
+    private static void imageKeepsYearsAndCurses() {
+        sentence(41, "AN IMAGE keeps all that ACTS change: TITHE, CURSES, who is GONE, STORES");
+        SonsLot x = of(houses(3) + plots(2) + "yields 50;");
+        x.years(2);
+        x.turn(1);
+        x.image();
+        x.turn(0);
+        x.turn(1);
+        x.years(5);
+        counts(x, 3, 2, 1010, 4, 7, 3, 4, 70, 3, 1, 5);
+        due("restore", x.restore(), true);
+        counts(x, 3, 2, 1010, 4, 2, 3, 4, 20, 1, 2, 2);
+        stores(x, 82, 82, 0);
+        x.undo();
+        x.undo();
+        counts(x, 3, 2, 1010, 4, 0, 3, 0, 0, 0, 0, 0);
+        due("restore", x.restore(), true);
+        counts(x, 3, 2, 1010, 4, 2, 3, 4, 20, 1, 2, 2);
+        stores(x, 82, 82, 0);
+    }
+
+    private static void imageKeepsSights() {
+        sentence(41, "AN IMAGE keeps what is SEEN");
+        SonsLot x = of("house 3 5 0;house 2 4 0;" + plots(2) + "yields strength*year;");
+        x.see(0, 2, 6);
+        x.see(1, 3, 12);
+        due("brothers", x.brothers(), 0x102);
+        x.image();
+        x.forget();
+        x.see(1, 1, 2);
+        x.see(0, 1, 5);
+        x.see(0, 1, 4);
+        due("brothers", x.brothers(), 0x200);
+        due("restore", x.restore(), true);
+        due("seen", x.count(11), 2);
+        due("brothers", x.brothers(), 0x102);
+        x.forget();
+        x.image();
+        x.see(0, 0, 9);
+        due("restore", x.restore(), true);
+        due("seen", x.count(11), 0);
+        due("brothers", x.brothers(), 0x303);
     }
 
     private static void imageKeepsAtMost40() {

@@ -1,3 +1,6 @@
+import java.util.ArrayList;
+import java.util.List;
+
 /** Each sentence about the tape, an island's text, its faults and its rules that names a boundary case. */
 public final class SonsLotEdgesOfTexts extends Due {
     private static final int BLANK = 0x20202020;
@@ -11,6 +14,8 @@ public final class SonsLotEdgesOfTexts extends Due {
         tapeIsEmptyThen();
         allAnew();
         allStaysButStatus();
+        nothingOfAFaultyTextStays();
+        textAfterText();
         actsAndImageAreGone();
         tapeHasNotSoMany();
         placeOfTheLatestFault();
@@ -28,6 +33,7 @@ public final class SonsLotEdgesOfTexts extends Due {
         textOf700();
 
         words();
+        wordsLetterByLetter();
         numbers();
         signs();
         blanks();
@@ -235,6 +241,58 @@ public final class SonsLotEdgesOfTexts extends Due {
             tell(x, "x");
             counts(x, 3, 3, 1010, 4, 0, 3, 0, 0, 0, 0, 0, 0, 0, i, 0, 0);
         }
+    }
+
+    /** Tells one line of each kind, each unlike what is without it. */
+    private static final String ALL_LINES =
+        houses(7) + "house 2 3 2;plot 4 5 6;market 1 2;rain 8 9;eats 17;worth 70;yields 80;";
+
+    private static void isBare(SonsLot x, int faults) {
+        counts(x, 1, 1, 1010, 4, 0, 3, 0, 0, 0, 0, 0, 0, 0, faults, 0, 0);
+        due("worth", x.worth(0, 0), 9 * 2 - 9);
+        due("harvest", x.harvest(0, 0, 1), 12);
+        due("rain of the next year", x.years(1), 1);
+        due("rain of the next year", x.count(5), 3);
+        due("elder", x.house(0, 0), 7);
+        due("younger", x.house(0, 1), 8);
+        due("water", x.plot(0, 2), 9);
+    }
+
+    private static void nothingOfAFaultyTextStays() {
+        sentence(3, "or the FAULT (all stays ..): the next TEXT is read all anew");
+        String bare = "house 7 8 1;plot 4 7 9;";
+        for (String fault : new String[] {"x", "house 1 1 1;house", "plot 4 5", "eats 1", "worth 1", "rain 1 2", "market 1"}) {
+            SonsLot x = new SonsLot();
+            due("island with a fault", tell(x, ALL_LINES + fault) > 0, true);
+            due("island", tell(x, bare), 0);
+            isBare(x, 1);
+        }
+        SonsLot again = new SonsLot();
+        due("island with a fault", tell(again, ALL_LINES + "x"), 1);
+        due("the same without it", tell(again, ALL_LINES), 0);
+        due("houses", again.count(0), 8);
+        due("rain of the first year", again.count(5), 8);
+        due("a fault within a rule", tell(again, "worth 1+2+(3"), 1);
+        due("a rule", tell(again, "house 1 1 1;plot 0 0 0;worth 5;"), 0);
+        due("worth", again.worth(0, 0), 5);
+    }
+
+    private static void textAfterText() {
+        sentence(3, "an ISLAND, all anew: as often as one is told");
+        SonsLot x = new SonsLot();
+        for (int i = 0; i < 3; i++) {
+            due("island", tell(x, ALL_LINES), 0);
+            counts(x, 8, 1, 201, 17, 0, 8, 0, 0, 0, 0, 0, 0, 0, i, 0, 0);
+            due("worth", x.worth(7, 0), 70);
+            due("harvest", x.harvest(7, 0, 0), 80);
+            due("island", tell(x, "house 7 8 1;plot 4 7 9;"), 0);
+            isBare(x, i);
+            due("island with a fault", tell(x, "plot 4 7 9;plot"), 1);
+        }
+        due("island", tell(x, ALL_LINES), 0);
+        due("island", tell(x, ALL_LINES), 0);
+        due("island", x.island(0), 0);
+        counts(x, 0, 0, 1010, 4, 0, 3, 0, 0, 0, 0, 0, 0, 0, 3, 0, 0);
     }
 
     private static void actsAndImageAreGone() {
@@ -471,6 +529,47 @@ public final class SonsLotEdgesOfTexts extends Due {
         fault("worth water{;", 1, 11);
         fault("worth water`;", 1, 11);
         fault("HOUSE 1 1 1;", 1, 0);
+    }
+
+    /** A word is what it is by each of its letters. */
+    private static void wordsLetterByLetter() {
+        sentence(4, "words: all in quotes is what stands there");
+        String[] heads = {"house", "plot", "market", "rain", "eats", "worth", "yields"};
+        String[] tails = {" 1 1 1;", " 1 1 1;", " 1 1;", " 1;", " 1;", " 1;", " 1;"};
+        for (int i = 0; i < heads.length; i++) {
+            fine(heads[i] + tails[i]);
+            for (String other : others(heads[i])) {
+                fault(other + tails[i], 1, 0);
+            }
+        }
+        String[] values = {"strength", "tribe", "water", "walk", "younger", "rain", "year"};
+        for (String value : values) {
+            fine("yields " + value + ";");
+            for (String other : others(value)) {
+                fault("yields " + other + ";", 3, 7);
+            }
+        }
+        for (String join : new String[] {"or", "and"}) {
+            fine("worth 1 " + join + " 1;");
+            for (String other : others(join)) {
+                fault("worth 1 " + other + " 1;", 1, 8);
+            }
+        }
+        for (String other : others("not")) {
+            fault("worth " + other + " 1;", 3, 6);
+        }
+    }
+
+    /** The word with each letter in turn another one or left out, or with one more. */
+    private static List<String> others(String word) {
+        List<String> others = new ArrayList<>();
+        for (int i = 0; i < word.length(); i++) {
+            others.add(word.substring(0, i) + "x" + word.substring(i + 1));
+            others.add(word.substring(0, i) + word.substring(i + 1));
+        }
+        others.add(word + "s");
+        others.add("a" + word);
+        return others;
     }
 
     private static void numbers() {

@@ -480,7 +480,6 @@ public final class SonsLot {
             needHouse(house);
         }
         needWithin(strength, 0, 99);
-        trial.copyFrom(live.state);
         int many = 0;
         for (int lots = 0; lots < 1 << land.island.houses; lots++) {
             trial.lots = lots;
