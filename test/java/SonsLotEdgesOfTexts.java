@@ -34,6 +34,7 @@ public final class SonsLotEdgesOfTexts extends Due {
 
         words();
         wordsLetterByLetter();
+        wordsInPlacesOfOthers();
         numbers();
         signs();
         blanks();
@@ -557,6 +558,34 @@ public final class SonsLotEdgesOfTexts extends Due {
         }
         for (String other : others("not")) {
             fault("worth " + other + " 1;", 3, 6);
+        }
+    }
+
+    private static void wordsInPlacesOfOthers() {
+        sentence(4, "FAULT 1: a TOKEN that can't stand there: a word that stands elsewhere");
+        List<String> lines = List.of("house", "plot", "market", "rain", "eats", "worth", "yields");
+        List<String> values = List.of("strength", "tribe", "water", "walk", "younger");
+        List<String> joins = List.of("or", "and");
+        List<String> words = new ArrayList<>(List.of("not", "year", "island", "elder"));
+        words.addAll(lines);
+        words.addAll(values);
+        words.addAll(joins);
+        for (String word : words) {
+            int at = 8 + word.length();
+            if (!lines.contains(word)) {
+                fault(word + " 1;", 1, 0);
+                fault(word + " 1 1;", 1, 0);
+                fault(word + " 1 1 1;", 1, 0);
+            }
+            boolean joined = joins.contains(word);
+            fault("worth 1 " + word + " 1;", joined ? 0 : 1, joined ? NONE : 8);
+            boolean value = values.contains(word);
+            boolean not = word.equals("not");
+            fault("worth " + word + " 1;", not ? 0 : value ? 1 : 3, not ? NONE : value ? at - 1 : 6);
+            fault("worth " + word + ";", not ? 1 : value ? 0 : 3, not ? 9 : value ? NONE : 6);
+            fault("house 1 " + word + " 1;", 1, 8);
+            fault("eats 1 " + word + ";", 1, 7);
+            fault("rain 1 " + word + ";", 1, 7);
         }
     }
 
