@@ -12,16 +12,23 @@ import java.util.TreeSet;
 
 /** The public face is the document's and no more, and what LANGUAGE.md asks of members holds. */
 public final class SonsLotFace {
+    private static final String NO_SUCH = " java.util.NoSuchElementException";
+    private static final String ILLEGAL = " java.lang.IllegalArgumentException";
+
+    /** Behind each one what it throws. */
     private static final String[] FACE = {
-        "int feed(int, int, int, int, int)", "int island(int)", "int fault()", "int count(int)", "int house(int, int)",
-        "int plot(int, int)", "int worth(int, int)", "int harvest(int, int, int)", "int lots(int)", "int turn(int)",
-        "int order(int, int)", "boolean exchange(int, int)", "int market(int, int)", "int years(int)", "int undo()",
-        "int ring()", "long best(int)", "int fairest(int)", "int tribes()", "int middle()", "int then(int, int)",
-        "int starves(int)", "int tithes(int)", "int holdsOut()", "int lotsFor(int, int)", "int change(int)",
-        "int envied(int)", "int without(int, int)", "int lastPlace(int)", "int famine(int)", "int bushels(int, int)",
-        "int free()", "int richest(int)", "int see(int, int, int)", "int brothers()", "int look(int, int)",
-        "void forget()", "int game(int, int, int, int)", "int founders(int, int, int)", "void image()",
-        "boolean restore()"};
+        "int feed(int, int, int, int, int)", "int island(int)" + ILLEGAL, "int fault()", "int count(int)" + NO_SUCH,
+        "int house(int, int)" + NO_SUCH, "int plot(int, int)" + NO_SUCH, "int worth(int, int)" + NO_SUCH,
+        "int harvest(int, int, int)" + NO_SUCH + ILLEGAL, "int lots(int)", "int turn(int)" + NO_SUCH,
+        "int order(int, int)" + NO_SUCH, "boolean exchange(int, int)" + NO_SUCH, "int market(int, int)",
+        "int years(int)", "int undo()", "int ring()", "long best(int)" + NO_SUCH, "int fairest(int)" + NO_SUCH,
+        "int tribes()", "int middle()", "int then(int, int)" + NO_SUCH + ILLEGAL, "int starves(int)" + NO_SUCH,
+        "int tithes(int)" + ILLEGAL, "int holdsOut()", "int lotsFor(int, int)" + NO_SUCH + ILLEGAL,
+        "int change(int)" + ILLEGAL, "int envied(int)" + NO_SUCH, "int without(int, int)" + NO_SUCH + ILLEGAL,
+        "int lastPlace(int)" + NO_SUCH, "int famine(int)" + ILLEGAL, "int bushels(int, int)" + NO_SUCH + ILLEGAL,
+        "int free()", "int richest(int)" + ILLEGAL, "int see(int, int, int)" + NO_SUCH, "int brothers()",
+        "int look(int, int)" + NO_SUCH, "void forget()", "int game(int, int, int, int)" + NO_SUCH + ILLEGAL,
+        "int founders(int, int, int)" + NO_SUCH + ILLEGAL, "void image()", "boolean restore()"};
 
     private static int wrong = 0;
 
@@ -54,7 +61,11 @@ public final class SonsLotFace {
                 for (Class<?> type : m.getParameterTypes()) {
                     types.add(type.getName());
                 }
-                open.add(m.getReturnType().getName() + " " + m.getName() + "(" + String.join(", ", types) + ")");
+                StringBuilder thrown = new StringBuilder();
+                for (Class<?> type : m.getExceptionTypes()) {
+                    thrown.append(' ').append(type.getName());
+                }
+                open.add(m.getReturnType().getName() + " " + m.getName() + "(" + String.join(", ", types) + ")" + thrown);
             }
         }
         due("methods: " + open, open.equals(new TreeSet<>(Arrays.asList(FACE))));

@@ -135,7 +135,7 @@ public final class SonsLot {
             case 0: return land.island.plotX[plot];
             case 1: return land.island.plotY[plot];
             case 2: return land.island.water[plot];
-            case 3: return land.walkFrom(live.state.marketX, live.state.marketY, plot);
+            case 3: return land.walkToMarket(live.state, plot);
             case 4: return land.ownerOf(live.state, plot);
             default: throw new NoSuchElementException();
         }
@@ -883,6 +883,9 @@ public final class SonsLot {
             for (int line = 0; line <= MOST_TEXT && fault == 0 && symbol != Tokens.END; line++) {
                 readLine();
             }
+            if (fault != 0) {
+                place = tokens.startAt(at);
+            }
             return fault;
         }
 
@@ -891,11 +894,10 @@ public final class SonsLot {
             symbol = tokens.symbolAt(at);
         }
 
-        /** Only the first fault counts: what is read behind it is no longer looked at. */
+        /** Only the first fault counts: nothing is read behind it, so that its token stays the one at hand. */
         private void refuseAs(int kind) {
             if (fault == 0) {
                 fault = kind;
-                place = tokens.startAt(at);
             }
         }
 
@@ -1132,7 +1134,7 @@ public final class SonsLot {
                 refuseAs(NO_VALUE);
                 return;
             }
-            rule.addValue(value);
+            rule.add(Rule.FIRST_VALUE - value);
             advance();
         }
     }
@@ -1170,10 +1172,6 @@ public final class SonsLot {
                 steps[length] = step;
                 length++;
             }
-        }
-
-        void addValue(int value) {
-            add(FIRST_VALUE - value);
         }
 
         int reckon(int[] values) {
@@ -1347,6 +1345,21 @@ public final class SonsLot {
 
         void turnLot(int house) {
             lots ^= 1 << house;
+        }
+
+        void storeAndEat(int house, int crop, int eats) {
+            if (house < 0 || house >= MOST_HOUSES) {
+                return;
+            }
+            int owed = crop / 10;
+            tithe += owed;
+            int grain = Math.min(MOST_STORE, store[house] + crop - owed);
+            if (grain < eats) {
+                store[house] = 0;
+                gone |= 1 << house;
+            } else {
+                store[house] = grain - eats;
+            }
         }
 
         void moveInOrder(int house, int to) {
@@ -1558,19 +1571,26 @@ public final class SonsLot {
             return all;
         }
 
-        int walkFrom(int x, int y, int plot) {
+        int walkToMarket(State state, int plot) {
             if (!island.hasPlot(plot)) {
                 return 0;
             }
-            return Math.abs(island.plotX[plot] - x) + Math.abs(island.plotY[plot] - y);
+            return walk(island.plotX[plot], island.plotY[plot], state.marketX, state.marketY);
         }
 
         int walksToShares(State state, int x, int y) {
             int walks = 0;
             for (int house = 0; house < island.houses; house++) {
-                walks += walkFrom(x, y, state.share[house]);
+                int share = state.share[house];
+                if (island.hasPlot(share)) {
+                    walks += walk(x, y, island.plotX[share], island.plotY[share]);
+                }
             }
             return walks;
+        }
+
+        private static int walk(int x, int y, int toX, int toY) {
+            return Math.abs(toX - x) + Math.abs(toY - y);
         }
 
         private void tellValues(State state, int house, int lot, int plot) {
@@ -1580,7 +1600,7 @@ public final class SonsLot {
             values[STRENGTH] = lot == 0 ? island.elder[house] : island.younger[house];
             values[TRIBE] = island.tribe[house];
             values[WATER] = island.water[plot];
-            values[WALK] = walkFrom(state.marketX, state.marketY, plot);
+            values[WALK] = walk(island.plotX[plot], island.plotY[plot], state.marketX, state.marketY);
             values[YOUNGER] = lot;
         }
 
@@ -1704,26 +1724,10 @@ public final class SonsLot {
             for (int passed = 0; passed < many; passed++) {
                 for (int house = 0; house < island.houses; house++) {
                     if (!state.isGone(house)) {
-                        liveThrough(state, house);
+                        state.storeAndEat(house, cropOnShare(state, house), island.eats);
                     }
                 }
                 state.year++;
-            }
-        }
-
-        private void liveThrough(State state, int house) {
-            if (!island.hasHouse(house)) {
-                return;
-            }
-            int crop = cropOnShare(state, house);
-            int tithe = crop / 10;
-            state.tithe += tithe;
-            int store = Math.min(MOST_STORE, state.store[house] + crop - tithe);
-            if (store < island.eats) {
-                state.store[house] = 0;
-                state.gone |= 1 << house;
-            } else {
-                state.store[house] = store - island.eats;
             }
         }
     }
